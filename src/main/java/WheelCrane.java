@@ -1006,7 +1006,7 @@ public final class WheelCrane {
             }
             findNear();
             for (int s = 0; s < stands.size; s++) {
-                costs[place(all, s)] = ways[all] == 0 ? FAR : 0;
+                costs[place(all, s)] = 0;
             }
             for (int set = all - 1; set >= 0; set--) {
                 if (ways[set] != 0) {
