@@ -410,6 +410,10 @@ public final class PromiseTest {
         x.load(990);
         due(x.bears(1000), NONE);
         due(x.blamed(1000, 2), 1);
+        x.clear();
+        // The last one parts, if two ahead wore 6 more: by 1, 3, 3 and 5 these are 1 and 2 (or 0 and 3).
+        for (int load : new int[] {200, 350, 350, 400, 494}) x.load(load);
+        due(x.blamed(1000, 4), 22);
     }
 
     private static void stones() {
@@ -603,6 +607,24 @@ public final class PromiseTest {
         refused(BAD, x.act(-1));
         needsOfStands();
         waysOfPlans();
+        longPlan();
+    }
+
+    private static void longPlan() {
+        fresh(30);
+        for (int i = 0; i < 14; i++) x.stone(i % 2 == 0 ? 28 : 0, 0, 1, i == 0 ? 0 : 1 << i - 1);
+        for (int j = 0; j < 5; j++) x.stand(7 * j, 0, 0);
+        x.reach(6, 1);
+        for (int a = 0; a < 5; a++) {
+            for (int b = a + 2; b < 5; b++) x.price(a, b, 100);
+        }
+        due(x.plan(), 56);
+        promise(31);
+        for (int i = 0; i < 70; i++) {
+            int lap = i / 5, at = i % 5;
+            due(x.act(i), at == 4 ? lap : lap % 2 == 0 ? 101 + at : 103 - at);
+        }
+        due(x.act(70), NONE);
     }
 
     private static void waysOfPlans() {
