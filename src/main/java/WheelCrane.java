@@ -739,15 +739,15 @@ public final class WheelCrane {
         }
 
         int leastBlame(int strength, int k) {
-            return blame(strength, k, 0, 0, 0, NONE);
+            return blame(loads, strength, k, 0, 0, 0, NONE);
         }
 
         /**
          * The best set among the one known and those that go on from load i, of a rope that is worn
          * so far and with a set of doubled loads ahead of i. Depth: i rises to k, 11 at most.
          */
-        private int blame(int strength, int k, int i, int wear, int set, int known) {
-            if (i > k || i >= size || known != NONE && Integer.bitCount(set) > Integer.bitCount(known)) {
+        private static int blame(int[] loads, int strength, int k, int i, int wear, int set, int known) {
+            if (i > k || i >= loads.length || known != NONE && Integer.bitCount(set) > Integer.bitCount(known)) {
                 return known;
             }
             int best = known;
@@ -758,7 +758,8 @@ public final class WheelCrane {
                 if (parts && i == k) {
                     best = lesser(doubled, best);
                 } else if (!parts && i < k) {
-                    best = blame(strength, k, i + 1, wear + Ropes.wearBy(strength, load), doubled, best);
+                    int worn = wear + Ropes.wearBy(strength, load);
+                    best = blame(loads, strength, k, i + 1, worn, doubled, best);
                 }
             }
             return best;
