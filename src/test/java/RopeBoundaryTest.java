@@ -483,6 +483,9 @@ public final class RopeBoundaryTest extends Sentences {
         // Load 2 twice, 988, PARTS only behind 13 of WEAR: by 0 and 1 twice (7 and 7), as told 2 and 2.
         loads(400, 400, 494);
         due(7, x.blamed(1000, 2));
+        // With the last one twice, 988, 0 alone wears enough (11 for 3), 1 and 2 only together (5 for 2 each).
+        loads(500, 350, 350, 494);
+        due(9, x.blamed(1000, 3));
     }
 
     private static void blamedLeast() {
