@@ -443,6 +443,11 @@ public final class RopeBoundaryTest extends Sentences {
         due(NONE, x.blamed(50000, 0));
         loads(25001);
         due(1, x.blamed(50000, 0));
+        // Twice, those ahead wear by 4, 7 and 2: 987 are HELD, and twice 487 is not above that.
+        loads(301, 399, 201, 487);
+        for (int k = 0; k < 4; k++) due(NONE, x.blamed(1000, k));
+        loads(399, 301, 103, 201, 7, 301, 401);
+        for (int k = 0; k < 7; k++) due(NONE, x.blamed(1000, k));
     }
 
     private static void blamedTwice() {
